@@ -177,6 +177,8 @@ public final class PromisesTest {
         dueRead("woo", -10);
         dueRead("woods 1;", -10);
         dueRead("Wood 1;", -10);
+        dueRead("food 1;", -10);
+        dueRead("wood 1;tree 0;tell 0;", -24);
         dueRead(";", -10);
         dueRead("3 wood 1;", -10);
         dueRead(" tree 0;", -11);
@@ -294,6 +296,12 @@ public final class PromisesTest {
         int[] then = {50, 41, 33, 26, 20, 15, 11, 8};
         for (int season : then) due("undo()", x.undo(), season);
         due("undo(), 8 at most", x.undo(), NO);
+        for (int i = 0; i < 10; i++) x.fell(i % 3, i / 3 % 2 == 0 ? 1 : 0);
+        int[] ahead = {7, 3, 1, 0, 4, 6, 7, 3};
+        for (int bits : ahead) {
+            x.undo();
+            due("FELLED ones as ahead of it", x.of(0, 1) + 2 * x.of(1, 1) + 4 * x.of(2, 1), bits);
+        }
         x.season(1);
         x.note(0, 1, 1, 1, 1);
         x.undo();
@@ -376,6 +384,14 @@ public final class PromisesTest {
         due("NONE is none of STATUS", x.status(0) + x.status(1) + x.status(2), 15);
         BarkPost seven = chain(99, PLAIN, PLAIN, PLAIN, PLAIN, PLAIN, PLAIN, PLAIN);
         due("byRow(7654321, 1, 1)", seven.byRow(7654321, 1, 1), 7);
+        due("byRow(1234561, 1, 1), one twice", seven.byRow(1234561, 1, 1), BAD);
+        due("byRow(7654322, 1, 1)", seven.byRow(7654322, 1, 1), BAD);
+        BarkPost late = chain(3, PLAIN, RESIN);
+        due("byRow(12, 12, 1), resin in season 4", late.byRow(12, 12, 1), 5);
+        due("byRow(12, 12, 0), resin in season 4", late.byRow(12, 12, 0), 12);
+        for (int i = 0; i < 16; i++) late.season(60);
+        late.season(36);
+        due("byRow(12, 12, 1), resin in season 1000", late.byRow(12, 12, 1), 5);
     }
 
     private static void p14Soonest() {
@@ -411,6 +427,12 @@ public final class PromisesTest {
         due("as what", y.soonest(0, 2, 12, 2), 1);
         y.season(1);
         due("the shorter row", y.soonest(0, 2, 12, 0), 13);
+        // To go back and forth until resin's long season is over is no row.
+        BarkPost back = forest(3, PLAIN, PLAIN, RESIN);
+        back.touch(0, 1, 1);
+        back.touch(0, 2, 1);
+        due("no tree twice", back.soonest(0, 2, 12, 0), 13);
+        due("no tree twice, in how many", back.soonest(0, 2, 12, 1), 5);
         BarkPost z = forest(0, PLAIN, PLAIN, PLAIN, OAK);
         z.touch(0, 1, 1);
         z.touch(0, 2, 1);
@@ -464,6 +486,7 @@ public final class PromisesTest {
     private static void p16Ways() {
         BarkPost x = allTouching(0, PLAIN, PLAIN, PLAIN, PLAIN, PLAIN, PLAIN, PLAIN);
         due("ways(0, 6) of seven", x.ways(0, 6), 326);
+        due("ways(3, 0) of seven", x.ways(3, 0), 326);
         due("ways(3, 3)", x.ways(3, 3), 1);
         x.fell(2, 1);
         due("ways(0, 6) of six", x.ways(0, 6), 65);
@@ -485,6 +508,8 @@ public final class PromisesTest {
         due("put(0, 1, 111, 0)", x.put(0, 1, 111, 0), 0);
         due("put(0, 1, 111, 1)", x.put(0, 1, 111, 1), NONE);
         due("put(1, 1, 111, 1)", x.put(1, 1, 111, 1), 444);
+        due("put(1, 1, 111, 0)", x.put(1, 1, 111, 0), 1);
+        due("put(1, 1, 222, 0)", x.put(1, 1, 222, 0), 1);
         x.touch(0, 1, 0);
         due("put(0, 1, 12, 0)", x.put(0, 1, 12, 0), NONE);
         due("put(0, 1, 12, 1)", x.put(0, 1, 12, 1), NONE);
@@ -500,6 +525,7 @@ public final class PromisesTest {
         due("meet(0, 0)", x.meet(0, 0), 0);
         due("meet(0, 1234)", x.meet(0, 1234), 1234);
         due("meet(4321, 0)", x.meet(4321, 0), 4321);
+        due("meet(0, 4321)", x.meet(0, 4321), 4321);
         due("meet(1, 1)", x.meet(1, 1), 1);
         due("meet(4, 4)", x.meet(4, 4), 3);
         due("meet(2, 3)", x.meet(2, 3), 4);
@@ -542,6 +568,15 @@ public final class PromisesTest {
         y.touch(2, 1, 1);
         y.touch(3, 1, 1);
         due("fewest ahead of least", y.apart(0, 1), 16);
+        due("by tree 0 alone", aroundTree0().apart(1, 2), 1);
+    }
+
+    /** 1 and 2 touch 0. */
+    private static BarkPost aroundTree0() {
+        BarkPost x = forest(0, PLAIN, PLAIN, PLAIN);
+        x.touch(0, 1, 1);
+        x.touch(0, 2, 1);
+        return x;
     }
 
     private static void p20Most() {
@@ -563,6 +598,9 @@ public final class PromisesTest {
         due("most(), the middle felled", star.most(), 0);
         BarkPost chain = chain(0, PLAIN, PLAIN, PLAIN, PLAIN);
         due("most(), of like ones the least", chain.most(), 1);
+        BarkPost two = forest(0, PLAIN, PLAIN, PLAIN);
+        two.touch(1, 2, 1);
+        due("most(), a row of two", two.most(), 1);
         BarkPost y = allTouching(0, PLAIN, PLAIN, PLAIN, PLAIN, PLAIN, PLAIN, PLAIN);
         due("most() of seven", y.most(), 0);
         y.touch(0, 1, 0);
