@@ -1,56 +1,5 @@
 /** The promises of the document one by one: ordinary inputs, the edges it names, and wrong inputs. */
-public final class PromisesTest {
-    private static final int PLAIN = 0, ASH = 1, OAK = 2, BEECH = 3, STUMP = 4, RESIN = 5;
-    private static final int NONE = -1, BAD = -2, NO = -3, FULL = -4;
-    private static int wrong = 0;
-    private static int promise = 0;
-
-    private static void due(String call, long got, long want) {
-        if (got != want) {
-            wrong++;
-            System.out.println("promise " + promise + ": " + call + " answered " + got + ", due is " + want);
-        }
-    }
-
-    private static BarkPost forest(int season, int... kinds) {
-        BarkPost x = new BarkPost();
-        x.wood(season);
-        for (int kind : kinds) x.tree(kind);
-        return x;
-    }
-
-    /** Each tree touches the next one. */
-    private static BarkPost chain(int season, int... kinds) {
-        BarkPost x = forest(season, kinds);
-        for (int t = 1; t < kinds.length; t++) x.touch(t - 1, t, 1);
-        return x;
-    }
-
-    private static BarkPost allTouching(int season, int... kinds) {
-        BarkPost x = forest(season, kinds);
-        for (int a = 0; a < kinds.length; a++) for (int b = 0; b < a; b++) x.touch(a, b, 1);
-        return x;
-    }
-
-    private static void type(BarkPost x, String text) {
-        x.clear();
-        for (int i = 0; i < text.length(); i++) x.type(text.charAt(i));
-    }
-
-    private static int readOf(String text) {
-        BarkPost x = new BarkPost();
-        type(x, text);
-        return x.read();
-    }
-
-    private static void dueRead(String text, int want) {
-        due("read() of '" + text + "'", readOf(text), want);
-    }
-
-    private static void counts(String when, BarkPost x, int... want) {
-        for (int what = 0; what < want.length; what++) due(when + ": count(" + what + ")", x.count(what), want[what]);
-    }
-
+public final class PromisesTest extends Checks {
     private static void p1NewObject() {
         BarkPost x = new BarkPost();
         counts("new", x, 0, 0, 0, 0, 0, 0, 0, 0);
@@ -899,12 +848,6 @@ public final class PromisesTest {
         due("count(-1)", x.count(-1), BAD);
     }
 
-    private static long fold(long... all) {
-        long h = 1319;
-        for (long v : all) h = 31 * h + v;
-        return h;
-    }
-
     private static void p35Digest() {
         BarkPost x = new BarkPost();
         due("digest(), new", x.digest(), fold(0, 0, 0, 0, 0, 0, 0, 0, 0, 1));
@@ -924,50 +867,49 @@ public final class PromisesTest {
     }
 
     private static void firstHalf() {
-        promise = 1; p1NewObject();
-        promise = 2; p2Wood();
-        promise = 3; p3Tree();
-        promise = 4; p4Touch();
-        promise = 5; p5Type();
-        promise = 6; p6Clear();
-        promise = 7; p7Read();
-        promise = 8; p8Fell();
-        promise = 9; p9Season();
-        promise = 10; p10Undo();
-        promise = 11; p11Of();
-        promise = 12; p12Copy();
-        promise = 13; p13ByRow();
-        promise = 14; p14Soonest();
-        promise = 15; p15Whole();
-        promise = 16; p16Ways();
-        promise = 17; p17Put();
-        promise = 18; p18Meet();
+        about("promise 1"); p1NewObject();
+        about("promise 2"); p2Wood();
+        about("promise 3"); p3Tree();
+        about("promise 4"); p4Touch();
+        about("promise 5"); p5Type();
+        about("promise 6"); p6Clear();
+        about("promise 7"); p7Read();
+        about("promise 8"); p8Fell();
+        about("promise 9"); p9Season();
+        about("promise 10"); p10Undo();
+        about("promise 11"); p11Of();
+        about("promise 12"); p12Copy();
+        about("promise 13"); p13ByRow();
+        about("promise 14"); p14Soonest();
+        about("promise 15"); p15Whole();
+        about("promise 16"); p16Ways();
+        about("promise 17"); p17Put();
+        about("promise 18"); p18Meet();
     }
 
     private static void secondHalf() {
-        promise = 19; p19Apart();
-        promise = 20; p20Most();
-        promise = 21; p21Note();
-        promise = 22; p22Came();
-        promise = 23; p23Forget();
-        promise = 24; p24Is();
-        promise = 25; p25Next();
-        promise = 26; p26First();
-        promise = 27; p27Foresters();
-        promise = 28; p28Storms();
-        promise = 29; p29Forests();
-        promise = 30; p30Part();
-        promise = 31; p31Image();
-        promise = 32; p32From();
-        promise = 33; p33Status();
-        promise = 34; p34Count();
-        promise = 35; p35Digest();
+        about("promise 19"); p19Apart();
+        about("promise 20"); p20Most();
+        about("promise 21"); p21Note();
+        about("promise 22"); p22Came();
+        about("promise 23"); p23Forget();
+        about("promise 24"); p24Is();
+        about("promise 25"); p25Next();
+        about("promise 26"); p26First();
+        about("promise 27"); p27Foresters();
+        about("promise 28"); p28Storms();
+        about("promise 29"); p29Forests();
+        about("promise 30"); p30Part();
+        about("promise 31"); p31Image();
+        about("promise 32"); p32From();
+        about("promise 33"); p33Status();
+        about("promise 34"); p34Count();
+        about("promise 35"); p35Digest();
     }
 
     public static void main(String[] args) {
         firstHalf();
         secondHalf();
-        System.out.println(wrong == 0 ? "all promises hold" : wrong + " answers are not as due");
-        if (wrong != 0) System.exit(1);
+        end();
     }
 }
