@@ -35,7 +35,7 @@ abstract class Checks {
 
     private static String documentOnOneLine() {
         try {
-            return Files.readString(Path.of("../shared/DOC.md")).replaceAll("\\s+", " ");
+            return Files.readString(Path.of(System.getProperty("shared", "../shared"), "DOC.md")).replaceAll("\\s+", " ");
         } catch (IOException e) {
             throw new IllegalStateException(e);
         }

@@ -231,10 +231,25 @@ public final class KeptEdgesTest extends Checks {
         due("nothing else is changed", x.digest(), fold(0, 0, 0, 0, 0, 0, 0, 0, 0, 1));
     }
 
+    private static void othersCountAsThese() {
+        sentence("(where others are told they count as these).");
+        BarkPost x = forest(0, PLAIN);
+        long before = x.digest();
+        due("status(3)", x.status(3), -1);
+        due("it counts as BAD", x.status(0), 1);
+        due("and changes nothing else", x.digest(), before);
+        due("NONE of most() counts as none", x.fell(0, 1) + x.most(), NONE);
+        due("a FAULT counts as none", x.read(), -10);
+        due(x, "status(0)", 1);
+        due(x, "status(1)", 0);
+        due(x, "status(2)", 0);
+    }
+
     // ---- promise 34: count
 
     private static void howMany() {
-        sentence("6 that may be undone, 7 bytes of THE TEXT. BAD.");
+        sentence("How many: 0 TREES, 1 the SEASON, 2 FELLED, 3 TOUCHES, 4 NOTES, 5 READ ones, 6 that may be undone, "
+                + "7 bytes of THE TEXT. BAD.");
         BarkPost x = fullWood();
         counts("full", x, 7, 999, 6, 21, 6, 6, 8, 150);
         dueRefusedOfEach(x, "count(#)", BAD, -1, 8, LEAST, GREATEST);
@@ -253,6 +268,16 @@ public final class KeptEdgesTest extends Checks {
             7654321, 99, 444444, 1234567, 99, 444444, 1, 99, 444444, 7, 99, 444444, 67, 99, 444444, 321, 99, 444444,
             9, 10};
         due("digest() of all that may be kept", fullWood().digest(), fold(all));
+    }
+
+    private static void digestOfTrees() {
+        sentence("of TREES KIND, FELLED (1, 0), which it TOUCHES (bits);");
+        due("no TREES", new BarkPost().digest(), fold(0, 0, 0, 0, 0, 0, 0, 0, 0, 1));
+        BarkPost x = touching(forest(9, RESIN, PLAIN, STUMP), 2);
+        x.fell(2, 1);
+        due("three", x.digest(), fold(3, 9, 1, 1, 0, 0, 1, 0, RESIN, 0, 4, PLAIN, 0, 0, STUMP, 1, 1, 0, 1));
+        x.undo();
+        due("replanted", x.digest(), fold(3, 9, 0, 1, 0, 0, 0, 0, RESIN, 0, 4, PLAIN, 0, 0, STUMP, 0, 1, 0, 1));
     }
 
     private static void digestOfWhatIsNot() {
@@ -356,8 +381,10 @@ public final class KeptEdgesTest extends Checks {
         whatImagesDoNotKeep();
         howManyWereRefused();
         anotherWhat();
+        othersCountAsThese();
         howMany();
         digestOfAFullWood();
+        digestOfTrees();
         digestOfWhatIsNot();
         theFirstOfTheReasons();
         refusedOnesLeaveImagesAndText();

@@ -237,6 +237,26 @@ public final class LetterEdgesTest extends Checks {
         due("none was refused", x.status(0), 0);
     }
 
+    private static void itIsNoRow() {
+        sentence("put in now: the LETTER as READ; in how many SEASONS; none: it is no ROW.");
+        BarkPost x = forest(2, ASH, OAK);
+        due("of one, the LETTER", x.byRow(1, 12, 0), 1);
+        due("of one, in how many", x.byRow(2, 12, 1), 2);
+        for (int what = 0; what < 2; what++) {
+            due("they do not TOUCH", x.byRow(12, 0, what), NONE);
+            due("they do not TOUCH", x.byRow(21, 0, what), NONE);
+        }
+        x.touch(0, 1, 1);
+        due("they TOUCH, the LETTER", x.byRow(21, 12, 0), 1);
+        due("they TOUCH, in how many", x.byRow(21, 12, 1), 3);
+        x.fell(0, 1);
+        for (int what = 0; what < 2; what++) {
+            due("the last is FELLED", x.byRow(21, 0, what), NONE);
+            due("the first is FELLED", x.byRow(12, 0, what), NONE);
+        }
+        due("none was refused", x.status(0), 0);
+    }
+
     private static void byRowWrongly() {
         sentence("BY ROW: the LETTER (0), in how many SEASONS (1). NONE: no ROW.");
         BarkPost x = forest(0, PLAIN, PLAIN);
@@ -432,8 +452,15 @@ public final class LetterEdgesTest extends Checks {
         BarkPost x = chain(0, SEVEN_PLAIN);
         due("by all seven", x.ways(0, 6), 1);
         due("none", forest(0, PLAIN, PLAIN).ways(0, 1), 0);
+    }
+
+    private static void waysWrongly() {
+        sentence("`int ways(int a, int b)`: WAYS. BAD.");
+        BarkPost x = allTouching(0, SEVEN_PLAIN);
         dueRefusedOfEach(x, "ways(#, 0)", BAD, -1, 7, LEAST, GREATEST);
         dueRefusedOfEach(x, "ways(0, #)", BAD, -1, 7, LEAST, GREATEST);
+        dueRefused(forest(0, PLAIN), "ways(0, 1)", BAD);
+        dueRefused(forest(0, PLAIN), "ways(1, 1)", BAD);
     }
 
     // ---- promise 17: put
@@ -474,6 +501,12 @@ public final class LetterEdgesTest extends Checks {
         due("FELLED: how many", x.put(0, 1, 1, 0), NONE);
         due("FELLED, alike: how many", x.put(1, 1, 1, 0), NONE);
         due("FELLED, alike: the least", x.put(1, 1, 1, 1), NONE);
+        due("none was refused", x.status(0), 0);
+    }
+
+    private static void putWrongly() {
+        sentence("PUT: how many (0), the least (1).");
+        BarkPost x = forest(0, PLAIN, PLAIN);
         dueRefusedOfEach(x, "put(#, 0, 1, 0)", BAD, -1, 2, LEAST, GREATEST);
         dueRefusedOfEach(x, "put(0, #, 1, 0)", BAD, -1, 2, LEAST, GREATEST);
         dueRefusedOfEach(x, "put(0, 0, 1, #)", BAD, -1, 2, LEAST, GREATEST);
@@ -547,6 +580,7 @@ public final class LetterEdgesTest extends Checks {
         oneTwice();
         aTreeNotThere();
         noRow();
+        itIsNoRow();
         byRowWrongly();
         readBehindTheLast();
         aAlone();
@@ -560,6 +594,7 @@ public final class LetterEdgesTest extends Checks {
         wholeOfAlikeOnes();
         wholeByTheWayRound();
         howManyWays();
+        waysWrongly();
     }
 
     public static void main(String[] args) {
@@ -567,6 +602,7 @@ public final class LetterEdgesTest extends Checks {
         rows();
         lettersOfUpTo3Signs();
         putWithNoRow();
+        putWrongly();
         putBySoonestAlone();
         signBySign();
         whereOneHasNone();

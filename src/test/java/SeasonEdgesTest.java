@@ -224,6 +224,30 @@ public final class SeasonEdgesTest extends Checks {
         due(x, "undo()", 0);
     }
 
+    /** Where the document leaves a choice, what NOTES.md says was chosen. */
+    private static void callsThatChangeNothing() {
+        sentence("UNDO: FELLED ones, the SEASON as ahead of the last TREE felled, replanted, SEASONS gone by (8 at most; "
+                + "behind a TREE, a TOUCH that comes none may be).");
+        BarkPost x = forest(3, PLAIN, PLAIN, PLAIN);
+        x.fell(0, 0);
+        due("a standing one replanted", x.count(6), 1);
+        x.fell(0, 1);
+        x.fell(0, 1);
+        due("a FELLED one felled", x.count(6), 3);
+        due("as ahead of the last", x.undo(), 3);
+        due("still FELLED", x.of(0, 1), 1);
+        x.touch(1, 2, 0);
+        due("behind a touch with 0", x.count(6), 0);
+        x.touch(1, 2, 1);
+        x.season(1);
+        x.touch(1, 2, 1);
+        due("behind a touch that was there", x.count(6), 0);
+        until(999, x).touch(1, 2, 0);
+        x.season(1);
+        due("no SEASON left to go by", x.count(6), 1);
+        due(x, "undo()", 999);
+    }
+
     // ---- promise 11: of
 
     private static void ofATree() {
@@ -258,6 +282,7 @@ public final class SeasonEdgesTest extends Checks {
         behindATree();
         behindATouch();
         refusedTreesAndTouchesLeaveIt();
+        callsThatChangeNothing();
         ofATree();
         end();
     }

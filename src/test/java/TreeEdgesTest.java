@@ -112,7 +112,8 @@ public final class TreeEdgesTest extends Checks {
             {6, 1, 1, 2, 5, 12, 14, 15, 34, 35, 45},
             {7, 1 << 5, 1, 5, 12, 16, 23, 35, 46},
             {7, 1 << 3, 5, 3, 5, 6, 15, 16, 56},
-            {7, 1 << 6, 2, 2, 5, 13, 14, 24, 25, 26, 35}};
+            {7, 1 << 6, 2, 2, 5, 13, 14, 24, 25, 26, 35},
+            {5, 1 << 3, 0, 4, 12, 23}};
         for (int i = 0; i < woods.length; i++) {
             int[] wood = woods[i];
             BarkPost x = touching(forest(0, new int[wood[0]]), Arrays.copyOfRange(wood, 3, wood.length));
@@ -141,6 +142,18 @@ public final class TreeEdgesTest extends Checks {
         due("but one FELLED", x.most(), 6);
         x.fell(6, 1);
         due("all FELLED", x.most(), NONE);
+    }
+
+    private static void mostOfNone() {
+        sentence("`int most()`: MOST. NONE.");
+        BarkPost x = new BarkPost();
+        due(x, "most()", NONE);
+        x.tree(RESIN);
+        due(x, "most()", 0);
+        x.fell(0, 1);
+        due(x, "most()", NONE);
+        x.undo();
+        due(x, "most()", 0);
         due("none was refused", x.status(0) + x.status(1) + x.status(2), 0);
     }
 
@@ -157,6 +170,21 @@ public final class TreeEdgesTest extends Checks {
         due(x, "note(0, 0, 0, 0, 0)", 1);
         due(x, "note(1, 444444, 99, 444444, 20)", 2);
         due(x, "digest()", fold(2, 0, 0, 0, 2, 0, 0, 0, 0, 0, 0, 0, 0, 0, 0, 0, 0, 0, 0, 1, 444444, 99, 444444, 20, 0, 1));
+    }
+
+    private static void notesAsTheyCome() {
+        sentence("NOTES 0 .. 5, as they come: a TREE copied LETTER x");
+        BarkPost x = forest(0, PLAIN);
+        long[] all = new long[43];
+        all[0] = 1;
+        for (int i = 0; i < 6; i++) {
+            due("note", x.note(0, i % 4 + 1, 10 * i, 4 - i % 4, i), i + 1);
+            long[] told = {0, i % 4 + 1, 10 * i, 4 - i % 4, i};
+            System.arraycopy(told, 0, all, 11 + 5 * i, 5);
+        }
+        all[4] = 6;
+        all[42] = 1;
+        due(x, "digest()", fold(all));
     }
 
     private static void sixNotes() {
@@ -241,7 +269,16 @@ public final class TreeEdgesTest extends Checks {
         x.note(0, 0, 0, 0, 4);
         x.note(0, 12, 0, 12, 4);
         due("the sixth NOTE, too", x.is(0), 0);
+    }
+
+    private static void isWrongly() {
+        sentence("`int is(int t)`: IS, as bits. BAD.");
+        BarkPost x = forest(0, PLAIN, PLAIN);
         dueRefusedOfEach(x, "is(#)", BAD, -1, 2, 7, LEAST, GREATEST);
+        due(x, "is(1)", 63);
+        x.fell(1, 1);
+        due("a FELLED one, too", x.is(1), 63);
+        dueRefusedOfEach(forest(0, SEVEN_PLAIN), "is(#)", BAD, -1, 7);
     }
 
     private static void eachKindByItsNotes() {
@@ -306,8 +343,17 @@ public final class TreeEdgesTest extends Checks {
         x.note(1, 1, 0, 1, 20);
         due(x, "next(1)", NONE);
         due(x, "next(0)", 12);
+    }
+
+    private static void nextWrongly() {
+        sentence("`int next(int t)`: NEXT. NONE. BAD.");
+        BarkPost x = forest(1, PLAIN, PLAIN);
+        x.note(1, 0, 0, 0, 0);
+        due(x, "next(1)", NONE);
         due("none was refused", x.status(0), 0);
         dueRefusedOfEach(x, "next(#)", BAD, -1, 2, 7, LEAST, GREATEST);
+        x.fell(0, 1);
+        due("a FELLED one, too", x.next(0), 1);
     }
 
     // ---- promise 26: first
@@ -332,8 +378,17 @@ public final class TreeEdgesTest extends Checks {
         x.came(1, 0, 444);
         due("of four SIGNS", x.first(0), 0);
         due("of four SIGNS", x.first(1), NONE);
+    }
+
+    private static void firstWrongly() {
+        sentence("FIRST: how many (0), the least (1; NONE). BAD.");
+        BarkPost x = forest(0, PLAIN);
+        x.came(1, 0, 1111);
+        due(x, "first(0)", 0);
+        due(x, "first(1)", NONE);
         due("none was refused", x.status(0), 0);
         dueRefusedOfEach(x, "first(#)", BAD, -1, 2, LEAST, GREATEST);
+        dueRefusedOfEach(new BarkPost(), "first(#)", BAD, -1, 2);
     }
 
     private static void theSameByAll() {
@@ -392,6 +447,21 @@ public final class TreeEdgesTest extends Checks {
         due("by b alone: a", byOne.foresters(2, 1, 0, 3), 2);
     }
 
+    private static void twoForesters() {
+        sentence("FORESTERS: two unlike ones fell TREE a, TREE b (unlike), or not: to each felling is 2,");
+        // 0 to 6 by 5 alone, by 4 and 3, or not at all by 1 and 2.
+        BarkPost x = touching(forest(0, SEVEN_PLAIN), 5, 56, 4, 43, 36);
+        due("5 and 4: one of them", x.foresters(5, 4, 0, 6), 2 + 4);
+        due("4 and 3: both, for 5 stands", x.foresters(4, 3, 0, 6), 8);
+        due("1 and 2: both", x.foresters(1, 2, 0, 6), 8);
+        due("5 and 1: both", x.foresters(5, 1, 0, 6), 8);
+        x.fell(5, 1);
+        due("4 and 3, 5 FELLED: neither", x.foresters(4, 3, 0, 6), 1);
+        due("4 and 1, 5 FELLED: 1", x.foresters(4, 1, 0, 6), 4);
+        due("1 and 4, 5 FELLED: 1", x.foresters(1, 4, 0, 6), 2);
+        due("nothing is felled by it", x.count(2), 1);
+    }
+
     private static void felledAheadOfThem() {
         sentence("if there is still a ROW from c to d (unlike, neither of them), -1, if there is none, not felling 1, if there is, else 0");
         BarkPost x = touching(forest(0, PLAIN, PLAIN, PLAIN, PLAIN), 1, 2, 13, 23);
@@ -442,6 +512,12 @@ public final class TreeEdgesTest extends Checks {
         }
         for (int b = 6; b >= 0; b--) dueStorms(x, 6, b, 5, 1, 1 << 7 - b);
         for (int b = 0; b <= 6; b++) dueStorms(x, 0, b, 5, 1, 2 << b);
+    }
+
+    private static void stormsWrongly() {
+        sentence("STORMS are THE FRACTION: 1. BAD.");
+        BarkPost x = chain(0, SEVEN_PLAIN);
+        dueStorms(x, 0, 1, 1, 81, 100);
         dueRefusedOfEach(x, "storms(0, 6, #)", BAD, -1, 11, LEAST, GREATEST);
         dueRefusedOfEach(x, "storms(#, 6, 1)", BAD, -1, 7, LEAST, GREATEST);
         dueRefusedOfEach(x, "storms(0, #, 1)", BAD, -1, 7, LEAST, GREATEST);
@@ -473,9 +549,6 @@ public final class TreeEdgesTest extends Checks {
     private static void seedsAndHowOften() {
         sentence("FORESTS by a SEED (0 .. 999999), n (0 .. 60): X is SEED at first;");
         BarkPost x = forest(0, PLAIN, PLAIN, PLAIN);
-        dueRefusedOfEach(x, "forests(#, 1, 0)", BAD, -1, 1000000, LEAST, GREATEST);
-        dueRefusedOfEach(x, "forests(1, #, 0)", BAD, -1, 61, LEAST, GREATEST);
-        dueRefusedOfEach(x, "forests(1, 1, #)", BAD, -1, 2, LEAST, GREATEST);
         due(x, "forests(0, 0, 0)", 0);
         due(x, "forests(999999, 0, 1)", 0);
         due(x, "forests(0, 60, 0)", 20);
@@ -483,6 +556,37 @@ public final class TreeEdgesTest extends Checks {
         // By SEED 999999 of three the first pair is 1, 2, the second 1, 1.
         due(x, "forests(999999, 1, 0)", 0);
         due(x, "forests(999999, 2, 0)", 1);
+    }
+
+    private static void forestsWrongly() {
+        sentence("FORESTS: in how many (0), SEASONS (1). BAD; NO.");
+        BarkPost x = forest(0, PLAIN, PLAIN, PLAIN);
+        dueRefusedOfEach(x, "forests(#, 1, 0)", BAD, -1, 1000000, LEAST, GREATEST);
+        dueRefusedOfEach(x, "forests(1, #, 0)", BAD, -1, 61, LEAST, GREATEST);
+        dueRefusedOfEach(x, "forests(1, 1, #)", BAD, -1, 2, LEAST, GREATEST);
+        x.wood(0);
+        dueRefused(x, "forests(1, 1, 0)", NO);
+        dueRefused(x, "forests(1, 1, 2)", BAD);
+    }
+
+    /** The pairs of the greatest seed and of the least, of five trees, were drawn apart from this program. */
+    private static void whatIsLeftOver() {
+        sentence("each time, twice, X becomes X times 1103515245 and 12345, by 2147483648 what is left over;");
+        int[][] by0 = {{0, 3}, {3, 2}, {3, 2}};
+        int[][] by999999 = {{3, 3}, {3, 4}, {2, 3}};
+        for (int i = 0; i < 3; i++) {
+            duePair(0, i + 1, by0[i]);
+            duePair(999999, i + 1, by999999[i]);
+        }
+    }
+
+    /** Of five that touch none but this one pair, the nth draw adds one, and none if either is felled. */
+    private static void duePair(int seed, int n, int[] pair) {
+        BarkPost x = forest(0, PLAIN, PLAIN, PLAIN, PLAIN, PLAIN);
+        if (pair[0] != pair[1]) x.touch(pair[0], pair[1], 1);
+        due("draw " + n + " of SEED " + seed, x.forests(seed, n, 0) - x.forests(seed, n - 1, 0), 1);
+        x.fell(pair[1], 1);
+        due("draw " + n + " of SEED " + seed + ", FELLED", x.forests(seed, n, 0) - x.forests(seed, n - 1, 0), 0);
     }
 
     /** How many of 60 pairs are alike, by how many trees and by which seed, was counted apart from this program. */
@@ -543,21 +647,26 @@ public final class TreeEdgesTest extends Checks {
         onMostRowsOfMany();
         mostOfAnotherWood();
         noTreesNotFelled();
+        mostOfNone();
     }
 
     private static void whatWasNoted() {
         numbersOfANote();
+        notesAsTheyCome();
         sixNotes();
         numbersOfAReadOne();
         sixReadOnes();
         rowsOfAllLengths();
         noneAnyMore();
         byAllNotesOfIt();
+        isWrongly();
         eachKindByItsNotes();
         whatToPutInNext();
         fewestThatCopyAlike();
         noKind();
+        nextWrongly();
         mayHaveBeenPutIn();
+        firstWrongly();
         theSameByAll();
         inItsOwnSeason();
     }
@@ -566,12 +675,16 @@ public final class TreeEdgesTest extends Checks {
         apartAndMost();
         whatWasNoted();
         pairsThatRest();
+        twoForesters();
         felledAheadOfThem();
         alikeForesters();
         oddsOfZeroToTen();
+        stormsWrongly();
         stormsWithNoRow();
         stormsByTheSoonest();
         seedsAndHowOften();
+        forestsWrongly();
+        whatIsLeftOver();
         pairsByHowManyTrees();
         aThenB();
         forestsOfNoTrees();

@@ -186,6 +186,18 @@ public final class WoodEdgesTest extends Checks {
         due(x, "count(7)", 2);
     }
 
+    private static void typeWrongly() {
+        sentence("how many it has. BAD; FULL.");
+        BarkPost x = new BarkPost();
+        type(x, "wood 3;");
+        dueRefusedOfEach(x, "type(#)", BAD, -1, 128);
+        due("no refused byte came", x.read(), 1);
+        type(x, " ".repeat(150));
+        dueRefusedOfEach(x, "type(#)", BAD, -1, 128);
+        dueRefusedOfEach(x, "type(#)", FULL, 0, 127);
+        due(x, "clear()", 150);
+    }
+
     private static void aFullText() {
         sentence("THE WOOD is told by a TEXT (150 bytes at most)");
         BarkPost x = new BarkPost();
@@ -244,6 +256,7 @@ public final class WoodEdgesTest extends Checks {
         allTouchesThereMayBe();
         felledOnesMayTouch();
         bytesOfTheText();
+        typeWrongly();
         aFullText();
         anEmptyText();
         clearLeavesAllElse();
