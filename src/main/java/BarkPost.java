@@ -24,6 +24,7 @@ public final class BarkPost {
     private static final int SEVEN_FIGURES = 1000000;
     private static final int HIGHEST_ROW = 7654321;
     private static final int ANY_LETTER = -1;
+    private static final int NEVER_READ = 1000000;
     private static final int FAULT_BASE = -10;
 
     private final Plain[] kinds;
@@ -881,7 +882,7 @@ public final class BarkPost {
 
         boolean seek(int start, int end, int put, int mustBeRead) {
             row = 0;
-            time = Integer.MAX_VALUE;
+            time = NEVER_READ;
             letter = put;
             goal = end;
             wanted = mustBeRead;

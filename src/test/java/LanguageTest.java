@@ -83,9 +83,20 @@ public final class LanguageTest {
         if (Pattern.compile("static\\s*\\{").matcher(code).find()) tell("a static block");
         Matcher calls = Pattern.compile("\\b(System|Math|Integer|Long|Arrays|Character)\\.(\\w+)").matcher(code);
         while (calls.find()) {
-            if (!List.of("System.arraycopy", "Math.min", "Math.max", "Integer.bitCount", "Integer.MAX_VALUE").contains(calls.group())) {
+            if (!List.of("System.arraycopy", "Math.min", "Math.max", "Integer.bitCount").contains(calls.group())) {
                 tell("the library's " + calls.group());
             }
+        }
+    }
+
+    /** All that is used is made with the object: what a run makes does not grow with its calls. */
+    private static void onlyConstructorsMake(String code) {
+        String outside = code.replaceAll("(?s)\n    public BarkPost\\(\\) \\{.*?\n    \\}", "");
+        if (outside.equals(code)) tell("the constructor is not found");
+        for (String line : outside.split("\n")) {
+            boolean field = line.matches("        (private )?final int\\[\\] \\w+ = new int\\[.*\\];");
+            if (line.matches(".*\\bnew\\b.*") && !field) tell("made by a call: " + line.trim());
+            if (line.matches(".*(\\.clone\\(|\\bcopyOf|\\bvalues\\(|\\bString\\w* \\w+ =|\\bInteger \\w).*")) tell("made by a call: " + line.trim());
         }
     }
 
@@ -109,6 +120,7 @@ public final class LanguageTest {
         String code = text.replaceAll("(?s)/\\*.*?\\*/", "").replaceAll("//[^\n]*", "").replaceAll("\"[^\"\n]*\"", "\"\"");
         face();
         words(code);
+        onlyConstructorsMake(code);
         methodsStayShort(Files.readAllLines(file));
         System.out.println(wrong == 0 ? "the face and the rules are kept" : wrong + " rules are not kept");
         if (wrong != 0) System.exit(1);
